@@ -156,10 +156,8 @@ public final class CoverageDesk {
         for (int p = 0; p < POINTS; p++) {
             part[p] = p;
         }
+        joinsTwoParts(OUTSIDE, 0);
         int needed = 0;
-        if (!joinsTwoParts(OUTSIDE, 0)) {
-            needed++;
-        }
         for (int i = 0; i < sizes[m]; i++) {
             int ways = waysFrom(m * INSTRUCTIONS + i);
             for (int k = 0; k < ways; k++) {
@@ -453,7 +451,6 @@ public final class CoverageDesk {
         begunCounts[spot]++;
         row[top] |= 1 << place[top];
         rowWays[top] |= wayOn[top];
-        wayOn[top] = 0;
     }
 
     private void compute(int op, int w, int v, int b) {
@@ -541,7 +538,6 @@ public final class CoverageDesk {
         for (int top = depth - 1; top >= 0; top--) {
             closeRow(top);
         }
-        depth = 0;
     }
 
     private void closeRow(int top) {

@@ -2,7 +2,6 @@ import java.util.ArrayList;
 import java.util.HashMap;
 import java.util.List;
 import java.util.Map;
-import java.util.Random;
 
 /** Drives CoverageDesk and SlowModel with the same calls, always the same ones, and compares every answer. */
 public final class ModelTest {
@@ -14,7 +13,8 @@ public final class ModelTest {
     /** How often each kind of answer came, so that the test can tell that it reached what it is for. */
     private static final Map<String, Integer> seen = new HashMap<>();
 
-    private final Random random;
+    /** Numbers without a random source: the same seed always gives the same calls. */
+    private long state;
     private final CoverageDesk desk = new CoverageDesk();
     private final SlowModel model = new SlowModel();
     private final List<String> calls = new ArrayList<>();
@@ -22,7 +22,7 @@ public final class ModelTest {
     private final List<List<int[]>> programs = new ArrayList<>();
 
     private ModelTest(long seed) {
-        random = new Random(seed);
+        state = seed * 0x9E3779B97F4A7C15L + 0x1234567L;
     }
 
     public static void main(String[] args) {
@@ -48,7 +48,10 @@ public final class ModelTest {
     }
 
     private int below(int bound) {
-        return random.nextInt(bound);
+        state ^= state << 13;
+        state ^= state >>> 7;
+        state ^= state << 17;
+        return (int) Long.remainderUnsigned(state >>> 11, bound);
     }
 
     /** Mostly inside 0..bound - 1, now and then beside it. */

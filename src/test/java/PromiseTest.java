@@ -193,6 +193,13 @@ public final class PromiseTest {
         runs(deskWith(row(PART, 0, 1), row(GIVE, 0, 0)), 7, 0, THROWN, 0);
         runs(deskWith(row(GIVE, 2, 0)), 7, 8, OK, 0);
         runs(deskWith(row(GIVE, 3, 0)), 7, 8, OK, 0);
+        // Every invocation begins with variables 2 and 3 being 0, whatever was there before.
+        CoverageDesk again = deskWith(row(ADD, 2, 5), row(ADD, 3, 7), row(SUB, 3, 2), row(GIVE, 3, 0));
+        runs(again, 7, 8, OK, 2);
+        runs(again, 7, 8, OK, 2);
+        again = deskWith(row(ADD, 2, 5), row(GIVE, 2, 0));
+        runs(again, 7, 8, OK, 5);
+        runs(again, 7, 8, OK, 5);
     }
 
     private static void waysOn() {
@@ -274,6 +281,7 @@ public final class PromiseTest {
         desk.define(2);
         runs(desk, 1, 7, OK, 7);
         due("the CALL goes on", desk.taken(1, 0, 0), 1);
+        due("nothing is begun outside", desk.stretches(2), 1);
         // A handler around its own at: thrown again and again.
         draft(desk, row(THROW, 0, 0));
         desk.guard(0, 0, 0);
@@ -443,6 +451,12 @@ public final class PromiseTest {
         desk.guard(0, 0, 1);
         desk.define(0);
         due("handlers are no lines", desk.counters(0), 1);
+        draft(desk, row(ADD, 0, 0), row(GO, 0, 1));
+        desk.define(0);
+        due("a loop without an end", desk.counters(0), 1);
+        draft(desk, row(SET, 0, 0), row(GIVE, 0, 0));
+        desk.define(0);
+        due("a straight row, asked after another", desk.counters(0), 1);
         for (int i = 0; i < 24; i++) {
             draft(desk, row(CHOICE, 0, 0));
         }
@@ -552,6 +566,11 @@ public final class PromiseTest {
         stretchIs(desk, 0, 0, 1, 3, 0, 5);
         stretchIs(desk, 0, 1, 97, 2, 4, 5);
         stretchIs(desk, 0, 2, 1, 3, 0, 2);
+        due("reset", desk.reset(0), OK);
+        due("run(0, 0, 5), six being at work", desk.run(0, 0, 5), LONG);
+        due("stretches", desk.stretches(0), 3);
+        stretchIs(desk, 0, 1, 91, 2, 4, 5);
+        stretchIs(desk, 0, 2, 5, 3, 0, 2);
         // With one more CALL around it the last row is cut in its middle.
         draft(desk, row(CALL, 0, 0), row(GIVE, 0, 0));
         desk.define(1);
@@ -724,6 +743,20 @@ public final class PromiseTest {
         due("merge(2)", desk.merge(2), 1);
         due("kept anew", desk.begun(0, 0), 2);
         due("stretches are those of the run", desk.stretch(0, 0, 0), 1);
+        // One slot does not touch another, nor the draft.
+        desk = deskWithLoop();
+        draft(desk, row(GIVE, 0, 0));
+        runs(desk, 1, 5, OK, 5);
+        for (int slot = 2; slot >= 0; slot--) {
+            due("keep(" + slot + ")", desk.keep(slot), true);
+            runs(desk, 1, 5, OK, 5);
+        }
+        for (int slot = 0; slot < 3; slot++) {
+            desk.reset(0);
+            due("merge(" + slot + ")", desk.merge(slot), 1);
+            due("kept in " + slot, desk.begun(0, 3), 3 - slot);
+        }
+        due("the draft is still there", desk.define(3), 1);
         CoverageDesk bare = new CoverageDesk();
         due("keep without methods", bare.keep(0), true);
         due("merge without methods", bare.merge(0), 0);
@@ -773,7 +806,7 @@ public final class PromiseTest {
         desk.define(0);
         due("merge, a handler less", desk.merge(0), 0);
         draftSample(desk, 0, 0);
-        desk.guard(0, 0, 0);
+        desk.guard(1, 1, 1);
         desk.define(0);
         due("merge, a handler more", desk.merge(0), 0);
         draftSample(desk, 0, 0);
@@ -781,11 +814,14 @@ public final class PromiseTest {
         desk.define(0);
         due("merge, an instruction more", desk.merge(0), 0);
         draftSample(desk, 0, 0);
+        desk.define(0);
+        due("merge of the same after longer ones", desk.merge(0), 1);
+        desk.define(0);
+        due("merge, the method being gone", desk.merge(0), 0);
+        draftSample(desk, 0, 0);
         desk.define(1);
         due("merge, the same but elsewhere", desk.merge(0), 0);
         due("nothing is added there", desk.begun(1, 0), 0);
-        desk.define(0);
-        due("merge, the method being gone", desk.merge(0), 0);
         desk.define(1);
         due("methods that are not there count neither", desk.merge(0), 0);
     }
