@@ -1,73 +1,14 @@
 /** For each promise of the document: ordinary inputs, the edges that it names, and wrong inputs. */
-public final class PromiseTest {
-    private static final int SET = 0, ADD = 1, MOVE = 2, SUB = 3, GO = 4, ZERO = 5, BELOW = 6, CHOICE = 7, CALL = 8,
-            GIVE = 9, THROW = 10, PART = 11;
-    private static final int OK = CoverageDesk.OK, THROWN = CoverageDesk.THROWN, LONG = CoverageDesk.LONG,
-            BAD = CoverageDesk.BAD;
-    private static final int MIN = Integer.MIN_VALUE, MAX = Integer.MAX_VALUE;
-
-    private static int wrong = 0;
-    private static int promise = 0;
-
-    private static void due(String what, int got, int want) {
-        if (got != want) {
-            wrong++;
-            System.out.println("promise " + promise + ": " + what + " answered " + got + ", due is " + want);
-        }
-    }
-
-    private static void due(String what, boolean got, boolean want) {
-        due(what, got ? 1 : 0, want ? 1 : 0);
-    }
-
+public final class PromiseTest extends Checks {
     public static void main(String[] args) {
         Runnable[] promises = {PromiseTest::aNewObject, PromiseTest::add, PromiseTest::guard, PromiseTest::define,
             PromiseTest::run, PromiseTest::result, PromiseTest::begun, PromiseTest::taken, PromiseTest::thrown,
             PromiseTest::counters, PromiseTest::stretches, PromiseTest::stretch, PromiseTest::line,
             PromiseTest::reset, PromiseTest::keep, PromiseTest::merge, PromiseTest::orderAndLimits};
-        for (Runnable one : promises) {
-            promise++;
-            one.run();
+        for (int n = 0; n < promises.length; n++) {
+            about("promise " + (n + 1), promises[n]);
         }
-        System.out.println(wrong == 0 ? "all promises hold" : wrong + " answers are not as due");
-        if (wrong != 0) {
-            System.exit(1);
-        }
-    }
-
-    /** Drafts instructions without asking for their lines: each row is op, a, b and, if there is a fourth, line. */
-    private static void draft(CoverageDesk desk, int[]... rows) {
-        for (int[] row : rows) {
-            due("add in a draft", desk.add(row[0], row[1], row[2], row.length > 3 ? row[3] : 0), true);
-        }
-    }
-
-    private static int[] row(int... numbers) {
-        return numbers;
-    }
-
-    private static CoverageDesk deskWith(int[]... rows) {
-        CoverageDesk desk = new CoverageDesk();
-        draft(desk, rows);
-        due("define(0)", desk.define(0), rows.length);
-        return desk;
-    }
-
-    /** Begins 3 * x + 2 instructions when run with x from 0 up, and gives y. */
-    private static void draftLoop(CoverageDesk desk) {
-        draft(desk, row(ZERO, 0, 3, 1), row(ADD, 0, -1, 2), row(GO, 0, 0, 2), row(GIVE, 1, 0, 3));
-    }
-
-    private static CoverageDesk deskWithLoop() {
-        CoverageDesk desk = new CoverageDesk();
-        draftLoop(desk);
-        due("define(0)", desk.define(0), 4);
-        return desk;
-    }
-
-    private static void runs(CoverageDesk desk, int x, int y, int how, int result) {
-        due("run(0, " + x + ", " + y + ")", desk.run(0, x, y), how);
-        due("result() after run(0, " + x + ", " + y + ")", desk.result(), result);
+        tellAndExit("all promises hold");
     }
 
     private static void aNewObject() {
@@ -316,17 +257,13 @@ public final class PromiseTest {
         due("not begun any more", desk.begun(0, 4), 1);
     }
 
-    /** The LOAD becomes 1000000000: 125 from a run, then six times five times as much, then nine times twice. */
+    /** The LOAD becomes 1000000000, from the 125 of one run. */
     private static CoverageDesk fullDesk() {
         CoverageDesk desk = deskWithLoop();
         due("keep(2)", desk.keep(2), true);
         runs(desk, 41, 5, OK, 5);
-        for (int round = 0; round < 15; round++) {
-            due("keep(0)", desk.keep(0), true);
-            for (int n = 0; n < (round < 6 ? 4 : 1); n++) {
-                due("merge(0)", desk.merge(0), 1);
-            }
-        }
+        multiplyLoad(desk, 1, 8);
+        multiplyLoadByAMillion(desk, 1);
         return desk;
     }
 
@@ -467,12 +404,6 @@ public final class PromiseTest {
         }
     }
 
-    private static void stretchIs(CoverageDesk desk, int m, int k, int... numbers) {
-        for (int what = 0; what < 4; what++) {
-            due("stretch(" + m + ", " + k + ", " + what + ")", desk.stretch(m, k, what), numbers[what]);
-        }
-    }
-
     private static void stretches() {
         waysTellApart();
         theFirstForty();
@@ -533,10 +464,7 @@ public final class PromiseTest {
         due("24 different ones", desk.stretches(0), 24);
         stretchIs(desk, 0, 0, 1, 24, 0, 23);
         desk = new CoverageDesk();
-        for (int i = 0; i < 20; i += 2) {
-            draft(desk, row(ADD, 0, -1), row(BELOW, 0, i + 2));
-        }
-        draft(desk, row(CHOICE, 1, 21), row(ADD, 0, 0), row(ADD, 0, 0), row(ADD, 0, 0));
+        draftMaze(desk);
         due("define(0)", desk.define(0), 24);
         for (int y = 0; y < 4; y++) {
             for (int x = 0; x < 11; x++) {
@@ -866,12 +794,8 @@ public final class PromiseTest {
         // 500000000 kept, and then one more begun.
         desk = deskWithLoop();
         runs(desk, 41, 5, OK, 5);
-        for (int round = 0; round < 14; round++) {
-            desk.keep(0);
-            for (int n = 0; n < (round < 6 ? 4 : 1); n++) {
-                due("merge(0)", desk.merge(0), 1);
-            }
-        }
+        multiplyLoad(desk, 1, 4);
+        multiplyLoadByAMillion(desk, 1);
         desk.keep(0);
         draft(desk, row(GIVE, 0, 0));
         desk.define(1);
