@@ -5,6 +5,7 @@ abstract class Checks {
     protected static final int OK = CoverageDesk.OK, THROWN = CoverageDesk.THROWN, LONG = CoverageDesk.LONG,
             BAD = CoverageDesk.BAD;
     protected static final int MIN = Integer.MIN_VALUE, MAX = Integer.MAX_VALUE;
+    protected static final int[] FAR_METHODS = {MIN, -1, 4, MAX}, FAR_SLOTS = {MIN, -1, 3, MAX};
 
     private static int wrong = 0;
     private static String subject = "";
@@ -89,6 +90,21 @@ abstract class Checks {
         String call = "run(" + m + ", " + x + ", " + y + ")";
         due(call, desk.run(m, x, y), how);
         due("result() after " + call, desk.result(), result);
+    }
+
+    /** That every call about method m is BAD. */
+    protected static void refusesMethod(CoverageDesk desk, int m) {
+        due("begun(" + m + ", 0)", desk.begun(m, 0), BAD);
+        due("taken(" + m + ", 0, 0)", desk.taken(m, 0, 0), BAD);
+        due("thrown(" + m + ", 0)", desk.thrown(m, 0), BAD);
+        due("counters(" + m + ")", desk.counters(m), BAD);
+        due("stretches(" + m + ")", desk.stretches(m), BAD);
+        for (int what = 0; what < 4; what++) {
+            due("stretch(" + m + ", 0, " + what + ")", desk.stretch(m, 0, what), BAD);
+        }
+        due("line(" + m + ", 0)", desk.line(m, 0), BAD);
+        due("reset(" + m + ")", desk.reset(m), BAD);
+        due("run(" + m + ", 1, 2)", desk.run(m, 1, 2), BAD);
     }
 
     /** How often each instruction of method m was begun, and that there are no more of them. */

@@ -1,8 +1,5 @@
 /** Each sentence of promises 13 to 17 that names a boundary case, and each refused call. */
 public final class DataEdgeTest extends Checks {
-    private static final int[] FAR_SLOTS = {MIN, -1, 3, MAX};
-    private static final int[] FAR_METHODS = {MIN, -1, 4, MAX};
-
     public static void main(String[] args) {
         about("13: 0 there are none; 1 none was begun", DataEdgeTest::lineOfNone);
         about("13: 2 some was, but not all; 3 all", DataEdgeTest::lineOfSome);
@@ -431,9 +428,11 @@ public final class DataEdgeTest extends Checks {
     }
 
     private static void mergeOfTheSameHandlers() {
-        int[][][] others = {{}, {row(0, 1, 2)}, {row(3, 4, 5)}, {row(3, 4, 5), row(0, 1, 2)}, {row(1, 1, 2), row(3, 4, 5)},
-            {row(0, 2, 2), row(3, 4, 5)}, {row(0, 1, 3), row(3, 4, 5)}, {row(0, 1, 2), row(4, 4, 5)}, {row(0, 1, 2), row(3, 5, 5)},
-            {row(0, 1, 2), row(3, 4, 4)}, {row(0, 1, 2), row(3, 4, 5), row(0, 0, 0)}};
+        // Fewer, in another order, each number of each being another, and more.
+        int[][][] others = {{}, {row(0, 1, 2)}, {row(3, 4, 5)}, {row(3, 4, 5), row(0, 1, 2)},
+            {row(1, 1, 2), row(3, 4, 5)}, {row(0, 2, 2), row(3, 4, 5)}, {row(0, 1, 3), row(3, 4, 5)},
+            {row(0, 1, 2), row(4, 4, 5)}, {row(0, 1, 2), row(3, 5, 5)}, {row(0, 1, 2), row(3, 4, 4)},
+            {row(0, 1, 2), row(3, 4, 5), row(0, 0, 0)}};
         CoverageDesk desk = new CoverageDesk();
         guard(desk, 0, 1, 2);
         guard(desk, 3, 4, 5);
@@ -469,9 +468,10 @@ public final class DataEdgeTest extends Checks {
         }
         desk = deskWith(row(GIVE, 0, 0));
         due("keep(2)", desk.keep(2), true);
-        guard(desk, 0, 0, 0);
+        guard(desk, 1, 2, 3);
         define(desk, 0, row(GIVE, 0, 0));
         due("merge(2), a handler now", desk.merge(2), 0);
+        // What was drafted for another method in between is not this one's.
         define(desk, 0, row(GIVE, 0, 0));
         due("merge(2), none again", desk.merge(2), 1);
     }

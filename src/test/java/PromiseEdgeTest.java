@@ -1,7 +1,5 @@
 /** Each sentence of promises 1 to 10 that names a boundary case, and each refused call. */
 public final class PromiseEdgeTest extends Checks {
-    private static final int[] FAR_METHODS = {MIN, -1, 4, MAX};
-
     public static void main(String[] args) {
         about("1: no methods, an empty draft, no data, nothing kept", PromiseEdgeTest::aNewObject);
         about("2: false if op is outside 0..11, a outside 0..3, line outside 0..15", PromiseEdgeTest::addOutside);
@@ -23,25 +21,11 @@ public final class PromiseEdgeTest extends Checks {
         tellAndExit("all edges of promises 1 to 10 hold");
     }
 
-    private static void refusesQuestions(CoverageDesk desk, int m) {
-        due("begun(" + m + ", 0)", desk.begun(m, 0), BAD);
-        due("taken(" + m + ", 0, 0)", desk.taken(m, 0, 0), BAD);
-        due("thrown(" + m + ", 0)", desk.thrown(m, 0), BAD);
-        due("counters(" + m + ")", desk.counters(m), BAD);
-        due("stretches(" + m + ")", desk.stretches(m), BAD);
-        for (int what = 0; what < 4; what++) {
-            due("stretch(" + m + ", 0, " + what + ")", desk.stretch(m, 0, what), BAD);
-        }
-        due("line(" + m + ", 0)", desk.line(m, 0), BAD);
-        due("reset(" + m + ")", desk.reset(m), BAD);
-        due("run(" + m + ", 1, 2)", desk.run(m, 1, 2), BAD);
-    }
-
     private static void aNewObject() {
         CoverageDesk desk = new CoverageDesk();
         due("result()", desk.result(), 0);
         for (int m = -1; m <= 4; m++) {
-            refusesQuestions(desk, m);
+            refusesMethod(desk, m);
         }
         for (int slot = -1; slot <= 3; slot++) {
             due("merge(" + slot + ")", desk.merge(slot), BAD);

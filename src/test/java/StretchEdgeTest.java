@@ -3,6 +3,7 @@ public final class StretchEdgeTest extends Checks {
     public static void main(String[] args) {
         about("a row of instructions, each to a higher number", StretchEdgeTest::risingRows);
         about("with the ways between them", StretchEdgeTest::waysBetween);
+        about("with the ways between them, at each place", StretchEdgeTest::waysAtEachPlace);
         about("it begins with the invocation", StretchEdgeTest::beginsWithInvocation);
         about("begins behind, and ends with, a way to the same or a lower number", StretchEdgeTest::sameOrLower);
         about("begins at a handler's at", StretchEdgeTest::beginsAtHandler);
@@ -76,13 +77,50 @@ public final class StretchEdgeTest extends Checks {
         runsMethod(desk, 2, 5, 1, OK, 0);
         runsMethod(desk, 2, 5, 0, THROWN, 0);
         stretchesAre(desk, 2, row(2, 2, 0, 1));
-        // Way 0 by the end of one run is not the way between in another.
+        // Ways back, to each of 0, 1 and 2: what is gone before them is the same row.
+        define(desk, 2, row(ADD, 2, 1), row(ADD, 2, 1), row(CHOICE, 0, 0), row(GIVE, 2, 0));
+        for (int x = 1; x <= 3; x++) {
+            runsMethod(desk, 2, x, 6, LONG, 0);
+        }
+        stretchesAre(desk, 2, row(66 + 1 + 1, 3, 0, 2), row(1, 2, 0, 1), row(98, 2, 1, 2), row(1, 1, 1, 1), row(197, 1, 2, 2));
+        // Ways forwards behind which the run is LONG: they are between none, either.
+        define(desk, 2, row(ADD, 2, 1), row(CHOICE, 0, 2), row(GO, 0, 0), row(GO, 0, 0), row(GO, 0, 0));
+        for (int x = 0; x <= 3; x++) {
+            runsMethod(desk, 2, x, 6, LONG, 0);
+        }
+        stretchesAre(desk, 2, row(66, 3, 0, 2), row(4, 2, 0, 1), row(66, 3, 0, 2), row(66, 3, 0, 3), row(66, 3, 0, 4));
+        // The same ways at the end and between are told apart.
         define(desk, 2, row(ZERO, 0, 1), row(ZERO, 1, 0), row(GIVE, 3, 0));
         runsMethod(desk, 2, 0, 1, OK, 0);
         runsMethod(desk, 2, 1, 1, OK, 0);
         runsMethod(desk, 2, 0, 0, LONG, 0);
         runsMethod(desk, 2, 1, 0, LONG, 0);
         stretchesAre(desk, 2, row(1, 3, 0, 2), row(1, 3, 0, 2), row(100, 2, 0, 1), row(100, 2, 0, 1));
+    }
+
+    /** A CHOICE at i and one at j, each with way 0 and another one to the next: the ways alone tell four rows apart. */
+    private static void waysAtEachPlace() {
+        for (int i = 0; i < 22; i++) {
+            for (int j = i + 1; j < 23; j++) {
+                for (int ways = 0; ways < 9; ways++) {
+                    tellsFourApart(i, 1 + ways / 3, j, 1 + ways % 3);
+                }
+            }
+        }
+    }
+
+    private static void tellsFourApart(int i, int k, int j, int l) {
+        CoverageDesk desk = new CoverageDesk();
+        for (int n = 0; n < 24; n++) {
+            draft(desk, n == i ? row(CHOICE, 0, i + 2 - k) : n == j ? row(CHOICE, 1, j + 2 - l) : row(ADD, 2, 1));
+        }
+        due("define(0)", desk.define(0), 24);
+        runs(desk, 0, 0, OK, 0);
+        runs(desk, k, 0, OK, 0);
+        runs(desk, 0, l, OK, 0);
+        runs(desk, k, l, OK, 0);
+        runs(desk, k, 0, OK, 0);
+        stretchesAre(desk, 0, row(1, 24, 0, 23), row(2, 24, 0, 23), row(1, 24, 0, 23), row(1, 24, 0, 23));
     }
 
     private static void beginsWithInvocation() {
@@ -196,6 +234,23 @@ public final class StretchEdgeTest extends Checks {
     }
 
     private static void endsWhenLong() {
+        // 200 are 66 times 3 and 2: the last row is cut in its middle.
+        CoverageDesk cut = deskWith(row(ADD, 2, 1), row(ADD, 2, 1), row(GO, 0, 0));
+        runs(cut, 0, 0, LONG, 0);
+        stretchesAre(cut, 0, row(66, 3, 0, 2), row(1, 2, 0, 1));
+        // With a CALL around it both are cut, and what is cut is told apart like any other.
+        define(cut, 1, row(ADD, 2, 1), row(CALL, 2, 0), row(GIVE, 2, 0));
+        runsMethod(cut, 1, 0, 0, LONG, 0);
+        stretchesAre(cut, 1, row(1, 2, 0, 1));
+        stretchesAre(cut, 0, row(132, 3, 0, 2), row(1, 2, 0, 1));
+        define(cut, 1, row(CALL, 2, 0), row(GIVE, 2, 0));
+        runsMethod(cut, 1, 0, 0, LONG, 0);
+        stretchesAre(cut, 1, row(1, 1, 0, 0));
+        stretchesAre(cut, 0, row(198, 3, 0, 2), row(1, 2, 0, 1), row(1, 1, 0, 0));
+        // Cut behind its first instruction: 3, 98 times 2 and 1.
+        define(cut, 2, row(ZERO, 0, 2), row(GIVE, 0, 0), row(ADD, 2, 1), row(GO, 0, 2));
+        runsMethod(cut, 2, 0, 0, LONG, 0);
+        stretchesAre(cut, 2, row(1, 3, 0, 3), row(98, 2, 2, 3), row(1, 1, 2, 2));
         // Six at work, each with a row of its own length: x counts how deep it is.
         CoverageDesk desk = new CoverageDesk();
         define(desk, 0, row(CALL, 2, 1));
@@ -307,6 +362,11 @@ public final class StretchEdgeTest extends Checks {
         due("all that are counted", gone, 40);
         due("begun counts on", desk.begun(0, 0), 48);
         due("taken counts on", desk.taken(0, 20, 3), 7 + 8);
+        // None of the 40 has made room: each is still itself.
+        for (int k = 0; k < 40; k++) {
+            due("run", desk.run(0, k % 11, k / 11), OK);
+            due("stretch(0, " + k + ", 0)", desk.stretch(0, k, 0), 2);
+        }
         // With a reset, or defined anew, there is room for them.
         due("reset(0)", desk.reset(0), OK);
         due("run", desk.run(0, 10, 3), OK);

@@ -1,7 +1,5 @@
 /** Each sentence of the section "Terms" that names a boundary case, at its edges and just beyond them. */
 public final class TermsEdgeTest extends Checks {
-    private static final int[] FAR = {MIN, -1, 4, MAX};
-
     public static void main(String[] args) {
         about("METHODS 0..3", TermsEdgeTest::methodNumbers);
         about("up to 24 INSTRUCTIONS, numbered from 0", TermsEdgeTest::instructionNumbers);
@@ -37,18 +35,6 @@ public final class TermsEdgeTest extends Checks {
         tellAndExit("all edges of the terms hold");
     }
 
-    private static void refusesMethod(CoverageDesk desk, int m) {
-        due("run(" + m + ", 0, 0)", desk.run(m, 0, 0), BAD);
-        due("begun(" + m + ", 0)", desk.begun(m, 0), BAD);
-        due("taken(" + m + ", 0, 0)", desk.taken(m, 0, 0), BAD);
-        due("thrown(" + m + ", 0)", desk.thrown(m, 0), BAD);
-        due("counters(" + m + ")", desk.counters(m), BAD);
-        due("stretches(" + m + ")", desk.stretches(m), BAD);
-        due("stretch(" + m + ", 0, 0)", desk.stretch(m, 0, 0), BAD);
-        due("line(" + m + ", 0)", desk.line(m, 0), BAD);
-        due("reset(" + m + ")", desk.reset(m), BAD);
-    }
-
     private static void methodNumbers() {
         CoverageDesk desk = new CoverageDesk();
         for (int m = 0; m < 4; m++) {
@@ -61,13 +47,13 @@ public final class TermsEdgeTest extends Checks {
             }
         }
         leavesAll("a method outside", desk, () -> {
-            for (int m : FAR) {
+            for (int m : FAR_METHODS) {
                 refusesMethod(desk, m);
             }
         });
         draft(desk, row(SET, 0, 5));
         leavesAll("define outside", desk, () -> {
-            for (int m : FAR) {
+            for (int m : FAR_METHODS) {
                 due("define(" + m + ")", desk.define(m), BAD);
             }
         });
@@ -625,6 +611,14 @@ public final class TermsEdgeTest extends Checks {
         runs(desk, 5, 6, THROWN, 5);
         due("thrown(0, 0)", desk.thrown(0, 0), 1);
         due("thrown(0, 1)", desk.thrown(0, 1), 0);
+        // And i is the number of the CALL there, not of what threw inside.
+        for (int i = 0; i < 3; i++) {
+            desk = new CoverageDesk();
+            guard(desk, i, i, 3);
+            define(desk, 0, row(ADD, 2, 1), row(CALL, 2, 1), row(GIVE, 0, 0), row(GIVE, 1, 0));
+            define(desk, 1, row(ADD, 2, 1), row(ADD, 2, 1), row(THROW, 0, 0));
+            runs(desk, 5, 6, i == 1 ? OK : THROWN, i == 1 ? 6 : 5);
+        }
     }
 
     private static void goesOnAtItsAt() {
