@@ -1,16 +1,21 @@
+import java.io.IOException;
 import java.lang.reflect.Constructor;
 import java.lang.reflect.Field;
 import java.lang.reflect.Method;
 import java.lang.reflect.Modifier;
 import java.nio.file.Files;
 import java.nio.file.Path;
+import java.util.Map;
 import java.util.Set;
+import java.util.TreeMap;
 import java.util.TreeSet;
 import java.util.regex.Matcher;
 import java.util.regex.Pattern;
 
 /** The public face of the document, and those rules of LANGUAGE.md that can be read off the class or its text. */
 public final class FaceTest {
+    private static final int MOST_DEEP = 6;
+
     private static int wrong = 0;
 
     private static void check(boolean holds, String what) {
@@ -24,7 +29,9 @@ public final class FaceTest {
         theMethods();
         theFields();
         theClass();
-        theText();
+        String text = textWithoutComments();
+        theWords(text);
+        theCalls(text);
         System.out.println(wrong == 0 ? "the face is as due" : wrong + " faults in the face");
         if (wrong != 0) {
             System.exit(1);
@@ -95,9 +102,12 @@ public final class FaceTest {
                 && makers[0].getParameterCount() == 0, "there is one constructor, public and without parameters");
     }
 
-    private static void theText() throws Exception {
+    private static String textWithoutComments() throws IOException {
         String text = Files.readString(Path.of("src/main/java/CoverageDesk.java"));
-        text = text.replaceAll("(?s)/\\*.*?\\*/", " ").replaceAll("//[^\n]*", " ");
+        return text.replaceAll("(?s)/\\*.*?\\*/", " ").replaceAll("//[^\n]*", " ");
+    }
+
+    private static void theWords(String text) {
         Matcher matcher = Pattern.compile("\\b(float|double|String|Math|Integer|Long|System|Arrays|Object|import|package"
                 + "|null|throw|throws|try|catch|finally|synchronized|assert|instanceof|interface|enum|record|abstract"
                 + "|protected|native|transient|volatile|var|this|super)\\b|->|::|\"|'|\\[\\s*\\]\\s*\\[").matcher(text);
@@ -113,5 +123,37 @@ public final class FaceTest {
             int start = body.lastIndexOf("\n    p");
             check(start < 0 || body.substring(start + 1).lines().count() <= 60, "a method is short: " + body);
         }
+    }
+
+    private static void theCalls(String text) {
+        Map<String, Set<String>> calls = new TreeMap<>();
+        Matcher method = Pattern.compile("(?ms)^    (?:public|private) \\w+ (\\w+)\\([^)]*\\) \\{(.*?)^    \\}").matcher(text);
+        while (method.find()) {
+            Set<String> called = calls.computeIfAbsent(method.group(1), name -> new TreeSet<>());
+            Matcher call = Pattern.compile("(\\w+)\\(").matcher(method.group(2));
+            while (call.find()) {
+                called.add(call.group(1));
+                String arguments = argumentsFrom(method.group(2), call.end());
+                check(!arguments.matches("(?s).*\\w\\(.*"), "no call inside the arguments of " + call.group(1));
+            }
+        }
+        check(calls.size() == CoverageDesk.class.getDeclaredMethods().length, "every method's text is found");
+        // Recursion would go deeper than any bound, so this is a check of both.
+        for (String name : calls.keySet()) {
+            check(!reaches(name, MOST_DEEP + 1, calls), "calls go at most six deep from " + name);
+        }
+    }
+
+    private static String argumentsFrom(String text, int start) {
+        int end = start;
+        for (int open = 1; open > 0; end++) {
+            open += text.charAt(end) == '(' ? 1 : text.charAt(end) == ')' ? -1 : 0;
+        }
+        return text.substring(start, end);
+    }
+
+    /** Whether a row of that many methods, each called by the one before it, begins with this one. */
+    private static boolean reaches(String name, int depth, Map<String, Set<String>> calls) {
+        return depth == 1 || calls.get(name).stream().anyMatch(next -> reaches(next, depth - 1, calls));
     }
 }
